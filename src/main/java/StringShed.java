@@ -88,8 +88,8 @@ public final class StringShed {
             saved[i] = false;
         }
         int leftOut = 0;
-        for (int at = 1; at < text.size(); at += text.widthAt(at)) {
-            leftOut += text.obeyAt(at, now) ? 0 : 1;
+        for (int at = 1; at < text.size(); at++) {
+            leftOut += text.isCommandAt(at) && !text.obeyAt(at, now) ? 1 : 0;
         }
         return leftOut;
     }
@@ -1147,20 +1147,9 @@ public final class StringShed {
 
         // The following read the commands of a text that has no error.
 
-        int widthAt(int at) {
-            switch (codeAt(at)) {
-                case 'n':
-                    return 2;
-                case 't':
-                case 'x':
-                case 'f':
-                case 'm':
-                    return 5;
-                case 'p':
-                    return 3;
-                default:
-                    return 1;
-            }
+        /** No letter that begins a command stands inside one. */
+        boolean isCommandAt(int at) {
+            return placeAfterLetter(codeAt(at)) != WRONG;
         }
 
         boolean obeyAt(int at, Shed shed) {
