@@ -820,7 +820,8 @@ public final class StringShed {
         }
 
         int placeFault(int above, int p) {
-            return ((there | ALL_HOOKS) & bitOf(above)) != 0 && isPart(p) ? FINE : NOT_THERE;
+            boolean isThing = ((there | ALL_HOOKS) & bitOf(above)) != 0;
+            return isThing && (there & bitOf(p)) != 0 ? FINE : NOT_THERE;
         }
 
         int perform(int kind, int above, int p, boolean is) {
@@ -914,10 +915,10 @@ public final class StringShed {
         }
 
         private int endSweep() {
+            // No white part is pinned: pinning makes it gray.
             int gone = sweep.whites();
             stringsGone += strings.removeAll(gone);
             there &= ~gone;
-            pinned &= ~gone;
             sweep.stop();
             sweepsEnded++;
             return NONE - Integer.bitCount(gone);

@@ -90,6 +90,9 @@ public final class ScriptTest {
         fails("behind the end", x, 3, 500006000360001L, 2);
         x.begin();
         succeeds("no step means one", x, 1, 60000);
+        succeeds("one step is no more", x, 3, 600016000160001L);
+        succeeds("no step is no more", x, 3, 600006000060000L);
+        fails("the fourth is too much", x, 3, 600026000160001L, 2);
         x.step();
         x.step();
         fails("no step means one: it ends", x, 2, 6000040002L, 1);
@@ -103,6 +106,7 @@ public final class ScriptTest {
         succeeds("not held", x, 1, 70400);
         fails("not held", x, 1, 70401, 0);
         fails("h 2", x, 1, 70202, 0);
+        fails("h 2, not held", x, 1, 70402, 0);
         fails("a digit", x, 1, 70211, 0);
         fails("no part", x, 1, 71401, 0);
         fails("no part, not held", x, 1, 71400, 0);

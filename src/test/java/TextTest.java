@@ -82,6 +82,7 @@ public final class TextTest {
         error("Sp19", -9);
         error("Sp1:", 3);
         error("Sp1/", 3);
+        error("Sp20", -9);
         error("Sp23", -9);
         error("Sp24", 3);
         error("Sp230", 4);
@@ -103,6 +104,8 @@ public final class TextTest {
             error("S" + letter + "23h", 4);
             error("S" + letter + "1919", -9);
             error("S" + letter + "2323b", -9);
+            error("S" + letter + "2020b", -9);
+            error("S" + letter + "1024", 5);
         }
         error("S" + "b".repeat(119), -9);
         error("S" + "b".repeat(118) + "n", 120);
@@ -142,6 +145,7 @@ public final class TextTest {
         Check.is("it changes nothing", 2, () -> x.about(1));
         Check.is("it forgets nothing", 0, x::undo);
         cutAndMend();
+        twoDigits();
         twentyFive();
     }
 
@@ -153,6 +157,21 @@ public final class TextTest {
         Check.is("two steps", 2, () -> x.part(1, 6));
         Check.is("white", 0, () -> x.part(2, 6));
         Check.is("the sweep ends", -10, x::step);
+    }
+
+    private static void twoDigits() {
+        StringShed x = Check.shed("S" + "n1".repeat(22) + "t0021t1012th321t1210f1210f0021m1210fh321x1012p20p19p20");
+        Check.is("strings", 3, () -> x.about(3));
+        Check.is("t0021, f", 2, () -> x.string(0, 21));
+        Check.is("th321, f", 2, () -> x.string(-4, 21));
+        Check.is("t1210, f, m", 1, () -> x.string(12, 10));
+        Check.is("p19", 1, () -> x.part(19, 1));
+        Check.is("p20 twice", 0, () -> x.part(20, 1));
+        Check.is("one pinned", 1, () -> x.about(5));
+        StringShed y = Check.shed("Sn1n1n1th000th101t0102fh000fh101f0102mh101m0102");
+        Check.is("mended", 1, () -> y.string(-2, 1));
+        Check.is("mended", 1, () -> y.string(1, 2));
+        Check.is("not mended", 2, () -> y.string(-1, 0));
     }
 
     private static void twentyFive() {

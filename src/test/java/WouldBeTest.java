@@ -49,6 +49,10 @@ public final class WouldBeTest {
         // The first way down, 0 1 3 5, must be taken back at 1 3 for two ways to be found.
         StringShed y = Check.shed("Sn1n1n1n1n1n1th000th002t0001t0103t0305t0104t0405t0203");
         Check.is("ways that cross", 2, () -> y.cuts(5));
+        StringShed chain = chainFromBelow(24);
+        Check.is("all are held", 24, () -> chain.about(6));
+        Check.is("the end of a chain", 1, () -> chain.cuts(23));
+        Check.is("all fall", 24, () -> chain.falls(-1, 0));
         StringShed hooks = Check.shed("Sn1th000th100th200th300");
         Check.is("four hooks", 4, () -> hooks.cuts(0));
     }
@@ -103,6 +107,23 @@ public final class WouldBeTest {
         Check.is("nor a step", 1, () -> x.part(1, 6));
         StringShed empty = new StringShed();
         Check.is("empty", 0, empty::takes);
+        StringShed most = chainFromBelow(23);
+        most.make(1);
+        Check.is("after 23 that stay", 1, most::takes);
+        most.begin();
+        Check.is("going on", 1, most::takes);
+    }
+
+    /** The strings are tied from below upwards. */
+    private static StringShed chainFromBelow(int parts) {
+        StringShed x = new StringShed();
+        for (int p = 0; p < parts; p++) {
+            x.make(1);
+        }
+        for (int p = parts - 1; p >= 0; p--) {
+            x.tie(p - 1, p, true);
+        }
+        return x;
     }
 
     private static void spares() {
