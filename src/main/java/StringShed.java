@@ -1227,7 +1227,7 @@ public final class StringShed {
                 case 5:
                     return rest == 0 && shed.attempt(BEGIN, NONE, NONE, false);
                 case 6:
-                    return high == 0 && takeSteps(shed, low);
+                    return high == 0 && low >= 1 && takeSteps(shed, low);
                 case 7:
                     return low <= 1 && shed.isPart(high) && (shed.depthOf(high) != NONE) == (low == 1);
                 case 8:
@@ -1241,7 +1241,7 @@ public final class StringShed {
 
         private static boolean takeSteps(Shed shed, int number) {
             boolean going = shed.sweep.isGoing();
-            shed.takeSteps(Math.max(1, number));
+            shed.takeSteps(number);
             return going;
         }
 

@@ -610,7 +610,7 @@ final class Model {
             pin(lower, upper == 0);
         } else if (g.equals("50000")) {
             begin();
-        } else if (g.startsWith("600")) {
+        } else if (g.matches("600(0[1-9]|[1-9].)")) {
             step();
             for (int i = 1; i < lower && s.sweep; i++) {
                 step();

@@ -78,7 +78,9 @@ public final class ScriptTest {
         fails("begin with a digit", x, 1, 51000, 0);
         fails("begin twice", x, 2, 5000050000L, 1);
         fails("no sweep", x, 1, 60001, 0);
-        fails("no sweep, 0 steps", x, 1, 60000, 0);
+        fails("no sweep, no step", x, 1, 60000, 0);
+        fails("no step is no command", x, 2, 5000060000L, 1);
+        fails("no step, third", x, 3, 500006000160000L, 2);
         succeeds("one step", x, 2, 5000060001L);
         succeeds("many steps", x, 2, 5000060099L);
         fails("steps with a digit", x, 2, 5000060101L, 1);
@@ -89,13 +91,17 @@ public final class ScriptTest {
         succeeds("it is there yet", x, 3, 500006000240002L);
         fails("behind the end", x, 3, 500006000360001L, 2);
         x.begin();
-        succeeds("no step means one", x, 1, 60000);
+        fails("no step is no command, first", x, 1, 60000, 0);
+        fails("no step before one", x, 2, 6000060001L, 0);
+        fails("no step after one", x, 2, 6000160000L, 1);
+        fails("no step three times", x, 3, 600006000060000L, 0);
+        succeeds("ten steps", x, 1, 60010);
         succeeds("one step is no more", x, 3, 600016000160001L);
-        succeeds("no step is no more", x, 3, 600006000060000L);
         fails("the fourth is too much", x, 3, 600026000160001L, 2);
         x.step();
         x.step();
-        fails("no step means one: it ends", x, 2, 6000040002L, 1);
+        fails("one ends it", x, 2, 6000140002L, 1);
+        fails("no step, where one would end it", x, 2, 6000040002L, 0);
         Check.is("the sweep goes on", 1, () -> x.about(8));
     }
 
