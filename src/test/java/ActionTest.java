@@ -9,8 +9,17 @@ public final class ActionTest {
         begin();
         step();
         changesInSweep();
+        heldNoMore();
+        heldByIt();
+        heldThen();
+        graysAtBegin();
+        lastStep();
         undo();
         undoForgets();
+        fourteenStates();
+        actionsThatChangeNothing();
+        newAfterUndo();
+        notActions();
         Check.end();
     }
 
@@ -262,5 +271,189 @@ public final class ActionTest {
         x.make(9);
         Check.is("in the place of the one undone", 13, x::undo);
         Check.is("pinned", 1, () -> x.part(0, 1));
+    }
+
+    /** A chain of 24 at hook 0, each part below the one before. */
+    private static StringShed chain() {
+        StringShed x = Check.shed("S" + "n9".repeat(24));
+        for (int p = 0; p < 24; p++) {
+            x.tie(p - 1, p, true);
+        }
+        return x;
+    }
+
+    /** Promises 12 and 13: "Returns the number of parts that are held no more.", from none to 24. */
+    private static void heldNoMore() {
+        for (int p = 0; p < 24; p++) {
+            int below = p;
+            StringShed x = chain();
+            Check.is("cut above " + p, 24 - p, () -> x.cut(below - 1, below));
+            Check.is("held", below, () -> x.about(6));
+            StringShed y = chain();
+            Check.is("fray above " + p, 24 - p, () -> y.fray(below - 1, below));
+            Check.is("held", below, () -> y.about(6));
+        }
+        StringShed x = Check.shed("Sn1n1n1n1th000t0001t0002t0102f0001p01th101t0302");
+        Check.is("cut a frayed one", 0, () -> x.cut(0, 1));
+        Check.is("cut above a pinned one", 0, () -> x.cut(-2, 1));
+        Check.is("cut below what is not held", 0, () -> x.cut(3, 2));
+        Check.is("cut what is held otherwise", 0, () -> x.cut(1, 2));
+        Check.is("cut what two hang from", 2, () -> x.cut(-1, 0));
+        Check.is("cut where nothing is held", 0, () -> x.cut(0, 2));
+    }
+
+    /** Promise 14: "Returns the number of parts that are held by it, and were not.", from none to 24. */
+    private static void heldByIt() {
+        for (int p = 0; p < 24; p++) {
+            int below = p;
+            StringShed x = chain();
+            x.fray(p - 1, p);
+            Check.is("mend above " + p, 24 - p, () -> x.mend(below - 1, below));
+            Check.is("all are held", 24, () -> x.about(6));
+        }
+        StringShed x = Check.shed("Sn1n1n1n1t0001t0203f0001f0203p01");
+        Check.is("mend below what is not held", 0, () -> x.mend(2, 3));
+        Check.is("mend above a pinned one", 0, () -> x.mend(0, 1));
+        x.tie(-1, 0, false);
+        Check.is("one, the other was held", 1, () -> x.mend(-1, 0));
+    }
+
+    /** Promise 15: "Returns the number of held parts then.", from none to 24. */
+    private static void heldThen() {
+        StringShed x = Check.shed("S" + "n1".repeat(24));
+        for (int p = 0; p < 24; p++) {
+            int q = p;
+            Check.is("pin " + p, p + 1, () -> x.pin(q, true));
+            Check.is("pinned", p + 1, () -> x.about(5));
+        }
+        for (int p = 0; p < 24; p++) {
+            int q = p;
+            Check.is("unpin " + p, 23 - p, () -> x.pin(q, false));
+            Check.is("pinned", 23 - p, () -> x.about(5));
+        }
+        StringShed y = chain();
+        Check.is("pin what hangs", 24, () -> y.pin(0, true));
+        y.cut(-1, 0);
+        Check.is("pinned, all hang from it", 24, () -> y.pin(23, false));
+        Check.is("unpinned, none is held", 0, () -> y.pin(0, false));
+        Check.is("pin the middle", 12, () -> y.pin(12, true));
+        Check.is("pin the last too", 12, () -> y.pin(23, true));
+        Check.is("the last alone", 1, () -> y.pin(12, false));
+    }
+
+    /** Promise 16: "Returns the number of gray parts.", from none to 24. */
+    private static void graysAtBegin() {
+        for (int n = 0; n <= 24; n++) {
+            StringShed x = Check.shed("S" + "n1".repeat(24));
+            for (int p = 0; p < n; p++) {
+                x.pin(23 - p, true);
+            }
+            Check.is("begin with " + n, n, x::begin);
+        }
+        Check.is("begin without parts", 0, () -> new StringShed().begin());
+        Check.is("those that hang deeper do not count", 1, () -> chain().begin());
+    }
+
+    /** Promise 17: "NONE less the number of parts that are swept", from none to 24. */
+    private static void lastStep() {
+        for (int n = 0; n <= 24; n++) {
+            StringShed x = Check.shed("S" + "n1".repeat(n) + "b");
+            Check.is("sweep " + n, -9 - n, x::step);
+            Check.is("swept", n, () -> x.about(2));
+            Check.is("none is left", 0, () -> x.about(0));
+            Check.is("sweeps", 1, () -> x.about(9));
+        }
+    }
+
+    /** "At most 14 states are remembered; when one more is remembered, the oldest one is forgotten." */
+    private static void fourteenStates() {
+        for (int n = 0; n <= 40; n++) {
+            StringShed x = Check.shed("S" + "n1".repeat(10));
+            for (int i = 0; i < n; i++) {
+                x.tie(i % 4 - 4, i / 4, true);
+            }
+            int most = Math.min(n, 14);
+            for (int i = 1; i <= most; i++) {
+                int left = most - i;
+                Check.is(n + " actions: undo", left, x::undo);
+                Check.is(n + " actions: strings", n - i, () -> x.about(3));
+            }
+            Check.refused(n + " actions: no more", IllegalStateException.class, x::undo);
+            Check.is("it changes nothing", n - most, () -> x.about(3));
+        }
+    }
+
+    /** "Each call of one of them that does not throw an exception is an action, also if nothing becomes different" */
+    private static void actionsThatChangeNothing() {
+        StringShed x = Check.shed("Sn1n1p00");
+        for (int i = 0; i < 5; i++) {
+            x.pin(0, true);
+            x.pin(1, false);
+            Check.refused("refused", IndexOutOfBoundsException.class, () -> x.pin(2, true));
+            Check.refused("refused", IllegalArgumentException.class, () -> x.make(0));
+            Check.refused("refused", IllegalStateException.class, x::step);
+        }
+        for (int left = 9; left >= 0; left--) {
+            Check.is("undo", left, x::undo);
+            Check.is("nothing becomes different", 1, () -> x.about(5));
+        }
+        Check.refused("ten actions", IllegalStateException.class, x::undo);
+        for (int i = 0; i < 14; i++) {
+            x.pin(1, false);
+        }
+        Check.is("fourteen that change nothing", 13, x::undo);
+        x.make(5);
+        x.pin(1, false);
+        Check.is("fourteen again", 13, x::undo);
+        Check.is("the part is there", 3, () -> x.about(0));
+        Check.is("undo make", 12, x::undo);
+        Check.is("the part is not there", 2, () -> x.about(0));
+    }
+
+    /** What was undone is forgotten; the next action is remembered behind what is left. */
+    private static void newAfterUndo() {
+        for (int back = 0; back <= 14; back++) {
+            StringShed x = Check.shed("S" + "n1".repeat(10));
+            for (int i = 0; i < 20; i++) {
+                x.tie(i % 4 - 4, i / 4, true);
+            }
+            for (int i = 0; i < back; i++) {
+                x.undo();
+            }
+            int strings = 20 - back;
+            int left = Math.min(14, 14 - back + 1) - 1;
+            x.tie(9, 8, false);
+            Check.is(back + " back: a new one", strings + 1, () -> x.about(3));
+            Check.is(back + " back: undo", left, x::undo);
+            Check.is(back + " back: strings", strings, () -> x.about(3));
+            for (int i = 1; i <= left; i++) {
+                int rest = left - i;
+                Check.is(back + " back: undo", rest, x::undo);
+            }
+            Check.is(back + " back: the oldest", strings - left, () -> x.about(3));
+            Check.refused(back + " back: no more", IllegalStateException.class, x::undo);
+        }
+    }
+
+    /** "load and restore are not actions.": behind them there is nothing to undo; what comes then is remembered. */
+    private static void notActions() {
+        StringShed x = new StringShed();
+        Check.write(x, "Sn1n2");
+        x.load();
+        Check.refused("load", IllegalStateException.class, x::undo);
+        x.save(0);
+        x.make(3);
+        x.save(1);
+        Check.is("save is none", 0, x::undo);
+        x.make(4);
+        x.restore(1);
+        Check.refused("restore", IllegalStateException.class, x::undo);
+        x.make(5);
+        Check.is("make is one", 0, x::undo);
+        Check.is("what was restored", 3, () -> x.part(2, 0));
+        Check.refused("no more", IllegalStateException.class, x::undo);
+        x.append('!');
+        x.clearText();
+        Check.refused("append and clearText", IllegalStateException.class, x::undo);
     }
 }

@@ -60,6 +60,15 @@ final class Check {
         return shed;
     }
 
+    /** Loads one text with the other one behind it, whatever is left out. */
+    static StringShed shed(String text, String more) {
+        StringShed shed = new StringShed();
+        write(shed, text + more);
+        shed.load();
+        shed.clearText();
+        return shed;
+    }
+
     static void end() {
         System.out.println(passed + " right, " + wrong + " wrong");
         System.exit(wrong == 0 ? 0 : 1);

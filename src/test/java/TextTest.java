@@ -4,8 +4,16 @@ public final class TextTest {
         newObject();
         append();
         clearText();
+        textStaysAsWritten();
         errorPosition();
+        eachPlace();
+        endsTooSoon();
+        noBlanks();
         load();
+        leftOut();
+        leftOutByNumber();
+        leftToRight();
+        loadTwice();
         Check.end();
     }
 
@@ -20,7 +28,16 @@ public final class TextTest {
         Check.refused("new: undo", IllegalStateException.class, x::undo);
         Check.refused("new: part", IndexOutOfBoundsException.class, () -> x.part(0, 0));
         Check.refused("new: restore", IllegalStateException.class, () -> x.restore(1));
+        Check.refused("new: restore", IllegalStateException.class, () -> x.restore(0));
+        Check.refused("new: step", IllegalStateException.class, x::step);
+        Check.is("new: errorPosition", 0, x::errorPosition);
+        Check.is("new: heaviest", -9, x::heaviest);
+        Check.is("new: rings", 0, x::rings);
+        Check.is("new: takes", 0, x::takes);
+        Check.is("new: spares", 0, x::spares);
         Check.is("new: clearText", 0, x::clearText);
+        Check.is("new: the first part", 0, () -> x.make(1));
+        Check.is("new: the next object is another one", 0, () -> new StringShed().about(1));
     }
 
     private static void append() {
@@ -37,6 +54,24 @@ public final class TextTest {
         Check.refused("append 256 to 120", IllegalArgumentException.class, () -> x.append(256));
         Check.is("clear 120", 120, x::clearText);
         Check.is("append again", 1, () -> x.append('S'));
+    }
+
+    /** Each character is told from each other one: 'S' alone is a shed. */
+    private static void textStaysAsWritten() {
+        for (int c = 0; c <= 255; c++) {
+            int code = c;
+            StringShed x = new StringShed();
+            Check.is("append " + c, 1, () -> x.append(code));
+            Check.is("errorPosition of character " + c, c == 'S' ? -9 : 0, x::errorPosition);
+            Check.is("clearText", 1, x::clearText);
+            Check.is("append behind clearText", 1, () -> x.append('S'));
+            Check.is("nothing of the old text", -9, x::errorPosition);
+        }
+        StringShed full = Sheds.fullOfWrongText();
+        Check.is("the last of 120", 119, full::errorPosition);
+        Check.is("clearText", 120, full::clearText);
+        full.append('S');
+        Check.is("nothing of the old text", -9, full::errorPosition);
     }
 
     private static void clearText() {
@@ -112,6 +147,70 @@ public final class TextTest {
         error("S" + "b".repeat(118) + "0", 119);
     }
 
+    /** "the index of the first character that these rules do not allow at its place": each one of 256 at each place. */
+    private static void eachPlace() {
+        place("", "S");
+        for (String before : new String[] {"S", "Sn1", "Sb", "Ss", "Sp00", "Sth000", "Sx2323"}) {
+            place(before, "ntxfmpbs");
+        }
+        place("Sn", "123456789");
+        for (char letter : "txfm".toCharArray()) {
+            place("S" + letter, "012h");
+            place("S" + letter + "h", "0123");
+            place("S" + letter + "0", "0123456789");
+            place("S" + letter + "1", "0123456789");
+            place("S" + letter + "2", "0123");
+            for (String above : new String[] {"h0", "h3", "00", "19", "23"}) {
+                place("S" + letter + above, "012");
+                place("S" + letter + above + "0", "0123456789");
+                place("S" + letter + above + "1", "0123456789");
+                place("S" + letter + above + "2", "0123");
+            }
+        }
+        place("Sp", "012");
+        place("Sp0", "0123456789");
+        place("Sp1", "0123456789");
+        place("Sp2", "0123");
+    }
+
+    private static void place(String before, String allowed) {
+        for (int c = 0; c <= 255; c++) {
+            StringShed x = new StringShed();
+            Check.write(x, before);
+            int length = x.append(c);
+            boolean fine = allowed.indexOf((char) c) >= 0;
+            int got = x.errorPosition();
+            boolean right = fine ? got == -9 || got == length : got == before.length();
+            Check.compare(before + " and " + c + ": errorPosition " + got, "true", String.valueOf(right));
+            x.append('!');
+            Check.is(before + " and " + c + " and !", fine ? length : before.length(), x::errorPosition);
+        }
+    }
+
+    /** "if the text ends too soon, it is the length of the text": a text of whole commands does not. */
+    private static void endsTooSoon() {
+        String text = "Sn1th000x0123fh323m2323p09bsn9";
+        String whole = " 1 3 8 13 18 23 26 27 28 30 ";
+        for (int n = 0; n <= text.length(); n++) {
+            boolean ends = whole.contains(" " + n + " ");
+            error(text.substring(0, n), ends ? -9 : n);
+        }
+        error("S" + "n1".repeat(59), -9);
+        error("S" + "n1".repeat(59) + "b", -9);
+        error("S" + "n1".repeat(59) + "n", 120);
+        error("S" + "n1".repeat(59) + "1", 119);
+        error("S" + "n1".repeat(57) + "th000", -9);
+        error("S" + "n1".repeat(57) + "bth00", 120);
+    }
+
+    /** "There are no blanks." */
+    private static void noBlanks() {
+        String text = "Sn1th000x0123p09bs";
+        for (int at = 0; at <= text.length(); at++) {
+            error(text.substring(0, at) + " " + text.substring(at), at);
+        }
+    }
+
     private static void load() {
         StringShed x = new StringShed();
         x.make(5);
@@ -180,5 +279,88 @@ public final class TextTest {
         Check.is("the 25th part is left out", 1, x::load);
         Check.is("24 parts", 24, () -> x.about(1));
         Check.is("weight", 7, () -> x.part(23, 0));
+    }
+
+    private static void leftOut(String before, String command) {
+        StringShed x = new StringShed();
+        Check.write(x, before);
+        Check.is("load " + before, 0, x::load);
+        Check.write(x, command);
+        Check.is("load " + before + command, 1, x::load);
+        Twins.alikeInState(command + " behind " + before, () -> Check.shed(before), () -> Check.shed(before, command));
+    }
+
+    /** "Commands that would throw an exception are left out.": each kind for each reason, and nothing else is. */
+    private static void leftOut() {
+        leftOut("S" + "n1".repeat(24), "n2");
+        leftOut("Sn1n2", "t0002");
+        leftOut("Sn1n2", "t0200");
+        leftOut("Sn1n2", "th002");
+        leftOut("Sn1n2", "t0101");
+        leftOut("Sn1n2t0001", "t0001");
+        leftOut("Sn1n2th001fh001", "th001");
+        for (char letter : "xfm".toCharArray()) {
+            leftOut("Sn1n2t0001th001", letter + "0100");
+            leftOut("Sn1n2t0001th001", letter + "h101");
+            leftOut("Sn1n2t0001th001", letter + "0002");
+            leftOut("Sn1n2t0001th001", letter + "0201");
+        }
+        leftOut("Sn1n2t0001f0001", "f0001");
+        leftOut("Sn1n2t0001", "m0001");
+        leftOut("Sn1n2", "p02");
+        leftOut("Sn1n2", "p23");
+        leftOut("Sn1n2b", "b");
+        leftOut("Sn1n2", "s");
+        leftOut("Sn1n2bs", "s");
+        leftOut("Sn1n2p01bss", "p00");
+        leftOut("Sn1n2p01bss", "th000");
+    }
+
+    /** load tells how many are left out, up to all of 119. */
+    private static void leftOutByNumber() {
+        for (int n = 0; n <= 119; n++) {
+            StringShed x = new StringShed();
+            Check.write(x, "S" + "s".repeat(n));
+            Check.is("load of steps", n, x::load);
+        }
+        StringShed x = new StringShed();
+        Check.write(x, "S" + "b".repeat(119));
+        Check.is("load of 119 sweeps", 118, x::load);
+    }
+
+    /** "The text is read from left to right." */
+    private static void leftToRight() {
+        StringShed x = new StringShed();
+        Check.write(x, "Sth000n1bth000s");
+        Check.is("what comes too soon is left out", 1, x::load);
+        Check.is("tied in the sweep", 2, () -> x.part(0, 6));
+        StringShed y = Check.shed("Sn3n5t0001t0100x0001f0100");
+        Check.is("weights", 3, () -> y.part(0, 0));
+        Check.is("weights", 5, () -> y.part(1, 0));
+        Check.is("strings", 500, () -> y.stringAt(0));
+        Check.is("frayed", 2, () -> y.string(1, 0));
+    }
+
+    /** "Makes everything as in a new object": numbers, strings and sweeps do not add up; "Keeps the text." */
+    private static void loadTwice() {
+        StringShed x = new StringShed();
+        Check.write(x, "Sn1n2n3th000t0102bssbn4");
+        for (int i = 0; i < 3; i++) {
+            int[] due = {2, 4, 2, 1, 0, 0, 1, 1, 1, 1, 1, 1};
+            Check.is("load", 0, x::load);
+            for (int k = 0; k < due.length; k++) {
+                int what = k;
+                Check.is("about " + what, due[what], () -> x.about(what));
+            }
+            Check.refused("nothing is remembered", IllegalStateException.class, x::undo);
+            Check.is("an action", 4, () -> x.make(9));
+            Check.is("is remembered", 0, x::undo);
+            Check.refused("slot 0 is empty", IllegalStateException.class, () -> x.restore(0));
+            Check.refused("slot 1 is empty", IllegalStateException.class, () -> x.restore(1));
+            x.save(0);
+            x.save(1);
+            x.make(9);
+        }
+        Check.is("the text", 23, x::clearText);
     }
 }

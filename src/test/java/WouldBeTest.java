@@ -2,12 +2,20 @@
 public final class WouldBeTest {
     public static void main(String[] args) {
         falls();
+        fallsFromNoneToAll();
         cuts();
+        cutsOfMost();
         heaviest();
+        heaviestAmongSeveral();
         rings();
+        ringsOfMost();
         takes();
+        takesFromNoneToAll();
         spares();
+        sparesFromNoneToAll();
         way();
+        wayToItsEnd();
+        wayAmongSeveral();
         Check.end();
     }
 
@@ -183,5 +191,226 @@ public final class WouldBeTest {
         // A longer way does not count, though its strings were tied first.
         StringShed z = Check.shed("Sn1n1n1th000t0001t0102th302");
         ways("short", z, 2, -4, 2, -9);
+    }
+
+    /** "(0, if it is frayed)", and from no weight to that of 24 parts. */
+    private static void fallsFromNoneToAll() {
+        StringShed x = Check.shed("S" + "n9".repeat(24));
+        for (int p = 0; p < 24; p++) {
+            x.tie(p - 1, p, true);
+        }
+        for (int p = 0; p < 24; p++) {
+            int below = p;
+            Check.is("falls above " + p, 9 * (24 - p), () -> x.falls(below - 1, below));
+        }
+        x.fray(-1, 0);
+        Check.is("frayed", 0, () -> x.falls(-1, 0));
+        Check.is("below what is not held", 0, () -> x.falls(0, 1));
+        x.pin(12, true);
+        Check.is("above a pinned one", 0, () -> x.falls(11, 12));
+        Check.is("below it", 99, () -> x.falls(12, 13));
+        x.mend(-1, 0);
+        Check.is("down to the pinned one", 108, () -> x.falls(-1, 0));
+        x.tie(-4, 6, true);
+        Check.is("down to what hangs otherwise", 54, () -> x.falls(-1, 0));
+        x.fray(-4, 6);
+        Check.is("a frayed one holds nothing", 108, () -> x.falls(-1, 0));
+    }
+
+    /** "(0 if it is not held); NONE if it is pinned", and from one to the 27 strings that can be tied to a part. */
+    private static void cutsOfMost() {
+        StringShed x = Check.shed("S" + "n1".repeat(24));
+        Check.is("not held", 0, () -> x.cuts(23));
+        for (int hook = 1; hook <= 4; hook++) {
+            x.tie(-hook, 23, true);
+            Check.is("strings from hooks", hook, () -> x.cuts(23));
+        }
+        for (int p = 0; p < 23; p++) {
+            int q = p;
+            x.tie(p, 23, true);
+            Check.is("one more, from what is not held", 4 + p, () -> x.cuts(23));
+            x.pin(p, true);
+            Check.is("from what is pinned", 5 + p, () -> x.cuts(23));
+            Check.is("pinned", -9, () -> x.cuts(q));
+        }
+        x.pin(22, false);
+        x.tie(0, 22, true);
+        x.tie(1, 22, true);
+        Check.is("one string below two", 27, () -> x.cuts(23));
+        Check.is("the two", 2, () -> x.cuts(22));
+        x.fray(22, 23);
+        Check.is("a frayed one does not count", 26, () -> x.cuts(23));
+        x.pin(23, true);
+        Check.is("pinned as well", -9, () -> x.cuts(23));
+        x.pin(23, false);
+        Check.is("and not any more", 26, () -> x.cuts(23));
+        StringShed narrow = Check.shed("Sn1n1n1n1th000th100th200t0001t0002t0103t0203");
+        Check.is("three at the top, two below", 2, () -> narrow.cuts(3));
+        narrow.cut(-1, 0);
+        narrow.cut(-2, 0);
+        Check.is("one at the top", 1, () -> narrow.cuts(3));
+        narrow.cut(-3, 0);
+        Check.is("none", 0, () -> narrow.cuts(3));
+    }
+
+    /** "among several the one that was tied first; NONE without strings" */
+    private static void heaviestAmongSeveral() {
+        StringShed x = Check.shed("Sn9n9n9n9");
+        Check.is("without strings", -9, x::heaviest);
+        x.tie(2, 3, true);
+        Check.is("one that holds nothing", 603, x::heaviest);
+        x.tie(-4, 2, false);
+        x.tie(-3, 1, true);
+        Check.is("one that holds nine", 101, x::heaviest);
+        x.tie(-2, 0, true);
+        Check.is("two that do", 101, x::heaviest);
+        x.tie(-3, 0, true);
+        x.cut(-2, 0);
+        Check.is("two, though a number is smaller", 101, x::heaviest);
+        x.mend(-4, 2);
+        Check.is("eighteen", 2, x::heaviest);
+        x.tie(-4, 1, true);
+        x.tie(-4, 3, true);
+        Check.is("none but two, the one tied first", 2, x::heaviest);
+        x.cut(-4, 2);
+        Check.is("the others", 100, x::heaviest);
+        x.cut(-3, 0);
+        x.cut(-3, 1);
+        Check.is("the last ones", 1, x::heaviest);
+        x.cut(-4, 1);
+        x.cut(2, 3);
+        Check.is("one string", 3, x::heaviest);
+        x.fray(-4, 3);
+        Check.is("one frayed string", 3, x::heaviest);
+        x.cut(-4, 3);
+        Check.is("no string any more", -9, x::heaviest);
+        StringShed full = Sheds.full();
+        Check.is("the last of 40, on which most hangs", 301, full::heaviest);
+    }
+
+    /** "not held, but on a ring of sound strings (from the part, one below the other, back to it)": from 2 parts to 24. */
+    private static void ringsOfMost() {
+        for (int n = 1; n <= 24; n++) {
+            StringShed x = Check.shed("S" + "n1".repeat(n));
+            for (int p = 0; p + 1 < n; p++) {
+                x.tie(p, p + 1, true);
+            }
+            Check.is("a chain of " + n, 0, x::rings);
+            if (n > 1) {
+                int size = n;
+                x.tie(n - 1, 0, false);
+                Check.is("a frayed ring of " + n, 0, x::rings);
+                x.mend(n - 1, 0);
+                Check.is("a ring of " + n, size, x::rings);
+                x.pin(n / 2, true);
+                Check.is("held", 0, x::rings);
+            }
+        }
+        StringShed two = Check.shed("Sn1n1n1n1n1n1n1t0001t0100t0102t0203t0304t0403t0405t0600");
+        Check.is("two rings; above, between and below them", 4, two::rings);
+        two.tie(-1, 3, true);
+        Check.is("the lower one hangs", 2, two::rings);
+        two.tie(5, 6, true);
+        Check.is("a held part leads to the upper one", 0, two::rings);
+    }
+
+    /** "how many parts would be swept": none of those that hang, up to all 24; "(begun now, if none goes on)". */
+    private static void takesFromNoneToAll() {
+        for (int n = 0; n <= 24; n++) {
+            StringShed x = chainFromBelow(24);
+            int left = n;
+            if (n > 0) {
+                x.cut(23 - n, 24 - n);
+            }
+            Check.is("begun now, of " + n, left, x::takes);
+            x.begin();
+            Check.is("begun, of " + n, left, x::takes);
+        }
+        StringShed x = Check.shed("Sn1n1n1p00t0001");
+        x.begin();
+        x.step();
+        x.step();
+        Check.is("before the end", 1, x::takes);
+        x.make(1);
+        x.fray(0, 1);
+        Check.is("black ones are not taken", 1, x::takes);
+        x.step();
+        Check.is("behind the end, another sweep", 2, x::takes);
+    }
+
+    /** "how many parts that are not held now would not be swept ...; 0 if none goes on" */
+    private static void sparesFromNoneToAll() {
+        for (int n = 0; n <= 24; n++) {
+            StringShed x = chainFromBelow(24);
+            Check.is("no sweep", 0, x::spares);
+            x.begin();
+            for (int i = 0; i < n; i++) {
+                x.step();
+            }
+            Check.is("all hang", 0, x::spares);
+            x.fray(-1, 0);
+            Check.is("all are spared wrongly, after " + n, 24, x::spares);
+        }
+        StringShed x = Check.shed("Sn1n1n1p00");
+        x.begin();
+        x.make(1);
+        Check.is("one that is new", 1, x::spares);
+        x.tie(3, 2, true);
+        Check.is("and what hangs there", 2, x::spares);
+        x.tie(-1, 3, true);
+        Check.is("held now", 0, x::spares);
+        x.pin(0, false);
+        Check.is("gray, not held", 1, x::spares);
+        x.step();
+        Check.is("black, not held", 1, x::spares);
+        x.step();
+        x.step();
+        Check.is("behind the end", 0, x::spares);
+        Check.is("it is there, and not held", 0, () -> x.part(0, 2));
+    }
+
+    /** "which thing, from 0"; "NONE if there are not so many, or if it is not held" */
+    private static void wayToItsEnd() {
+        StringShed x = chainFromBelow(24);
+        for (int p = 0; p < 24; p++) {
+            int q = p;
+            Check.is("the hook", -1, () -> x.way(q, 0));
+            Check.is("the last but one", q - 1, () -> x.way(q, q));
+            Check.is("the part", q, () -> x.way(q, q + 1));
+            Check.is("behind it", -9, () -> x.way(q, q + 2));
+        }
+        x.pin(12, true);
+        Check.is("above the pinned part", -1, () -> x.way(11, 0));
+        Check.is("the pinned part", 12, () -> x.way(12, 0));
+        Check.is("behind it", -9, () -> x.way(12, 1));
+        Check.is("from the pinned part", 12, () -> x.way(23, 0));
+        Check.is("to the last", 23, () -> x.way(23, 11));
+        Check.is("behind it", -9, () -> x.way(23, 12));
+        x.fray(22, 23);
+        Check.is("not held", -9, () -> x.way(23, 0));
+    }
+
+    /** "the one whose string that is tied to the part was tied first, then the one above it, and so on" */
+    private static void wayAmongSeveral() {
+        StringShed x = Check.shed("Sn1n1n1n1n1n1t0304t0204t0103t0003t0102t0002th301th201th100th000t0405");
+        ways("all first", x, 5, -4, 1, 3, 4, 5, -9);
+        x.cut(3, 4);
+        ways("the second to 4", x, 5, -4, 1, 2, 4, 5, -9);
+        x.cut(1, 2);
+        ways("the second to 2", x, 5, -2, 0, 2, 4, 5, -9);
+        x.cut(-2, 0);
+        ways("the second to 0", x, 5, -1, 0, 2, 4, 5, -9);
+        x.tie(3, 4, true);
+        ways("tied later", x, 5, -1, 0, 2, 4, 5, -9);
+        x.fray(2, 4);
+        ways("frayed", x, 5, -4, 1, 3, 4, 5, -9);
+        x.pin(2, true);
+        x.mend(2, 4);
+        ways("a shorter one, from a pinned part", x, 5, 2, 4, 5, -9);
+        x.pin(3, true);
+        ways("two of them: the one tied first", x, 5, 2, 4, 5, -9);
+        x.cut(2, 4);
+        x.tie(2, 4, true);
+        ways("and now the other one", x, 5, 3, 4, 5, -9);
     }
 }
