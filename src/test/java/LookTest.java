@@ -11,6 +11,7 @@ public final class LookTest {
         part();
         partInSweep();
         partOfMost();
+        partWithStringsLess();
         string();
         stringEach();
         stringAt();
@@ -238,6 +239,32 @@ public final class LookTest {
         parts("23 below, sound or not", y, 0, 1, 0, 0, -9, 0, 23, -9);
         y.tie(1, 2, true);
         parts("directly below only", y, 0, 1, 0, 0, -9, 0, 23, -9);
+    }
+
+    /** "the sound strings that lead to it"; "the strings below it, sound or not": those that are there, not those that were. */
+    private static void partWithStringsLess() {
+        StringShed x = Check.shed("S" + "n1".repeat(24));
+        StringShed y = Check.shed("S" + "n1".repeat(24));
+        for (int p = 0; p < 23; p++) {
+            x.tie(p, 23, true);
+            y.tie(23, p, p % 2 == 0);
+        }
+        for (int p = 0; p < 23; p++) {
+            int left = 22 - p;
+            x.cut(p, 23);
+            Check.is("strings to it, the first one cut", left, () -> x.part(23, 4));
+            Check.is("strings below the one above", 0, () -> x.part(22 - left, 5));
+            y.cut(23, left);
+            Check.is("strings below it, the last one cut", left, () -> y.part(23, 5));
+            Check.is("strings to the one below", 0, () -> y.part(left, 4));
+        }
+        StringShed swept = Check.shed("Sn1n1n1n1p02p03t0002t0203t0103t0302");
+        swept.begin();
+        for (int i = 0; i < 3; i++) {
+            swept.step();
+        }
+        parts("two strings went", swept, 2, 1, 1, 1, 0, 1, 1, -9);
+        parts("two strings went", swept, 3, 1, 1, 1, 0, 1, 1, -9);
     }
 
     /** "Returns 0 if there is none, 1 if it is sound, 2 if it is frayed.": from each thing to each part. */

@@ -5,6 +5,8 @@ public final class WouldBeTest {
         fallsFromNoneToAll();
         cuts();
         cutsOfMost();
+        cutsAtTheEndOfAll();
+        cutsAskedAgain();
         heaviest();
         heaviestAmongSeveral();
         rings();
@@ -251,6 +253,37 @@ public final class WouldBeTest {
         Check.is("one at the top", 1, () -> narrow.cuts(3));
         narrow.cut(-3, 0);
         Check.is("none", 0, () -> narrow.cuts(3));
+    }
+
+    /** A way through all 24 parts: what it goes by counts once, the string at the hook too. */
+    private static void cutsAtTheEndOfAll() {
+        StringShed x = Check.shed("S" + "n1".repeat(24));
+        for (int p = 0; p < 24; p++) {
+            x.tie(p - 1, p, true);
+        }
+        Check.is("a chain", 1, () -> x.cuts(23));
+        x.tie(0, 23, true);
+        Check.is("and a short cut below the hook's string", 1, () -> x.cuts(23));
+        x.tie(-2, 22, true);
+        Check.is("and another hook", 2, () -> x.cuts(23));
+        x.tie(-3, 0, true);
+        Check.is("and a third one, but two strings below", 2, () -> x.cuts(23));
+        x.tie(1, 23, true);
+        Check.is("and three", 3, () -> x.cuts(23));
+    }
+
+    /** What was found before does not count when the strings have become others. */
+    private static void cutsAskedAgain() {
+        StringShed x = Check.shed("Sn1n1n1th000t0001t0002t0102");
+        Check.is("one at the hook", 1, () -> x.cuts(2));
+        x.pin(1, true);
+        Check.is("two", 2, () -> x.cuts(2));
+        x.fray(-1, 0);
+        Check.is("from the pinned part alone", 1, () -> x.cuts(2));
+        x.pin(1, false);
+        Check.is("not held", 0, () -> x.cuts(2));
+        x.pin(0, true);
+        Check.is("by two ways", 2, () -> x.cuts(2));
     }
 
     /** "among several the one that was tied first; NONE without strings" */
