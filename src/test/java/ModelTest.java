@@ -1,22 +1,42 @@
 import java.util.ArrayList;
 import java.util.List;
 
-/** Long runs of calls, the same ones at a StringShed and at the Model; the numbers come from a fixed row. */
+/**
+ * Long runs of calls, the same ones at a StringShed and at the Model; the numbers come from a fixed row.
+ * What an object answers after its 512th call is free: so the Model tells what to call next, and the looks at
+ * everything between the calls are at other objects, at which the calls so far are made again.
+ */
 public final class ModelTest {
-    private static final int RUNS = 60;
+    private static final int RUNS = 120;
     private static final int CALLS = 512;
     private static final int[] FAR = {-5, 24, 25, -100, Integer.MAX_VALUE, Integer.MIN_VALUE, 1 << 5, 28, -9};
     private static final String CHARS = "SSSnnntttthhhpxfmbs0123456789012301230123";
 
+    private interface On {
+        long call(StringShed x);
+    }
+
+    private interface OnModel {
+        long call(Model m);
+    }
+
+    private record Question(String text, On on, OnModel onModel) {
+    }
+
     private static long row;
+    private static int run;
+    private static StringShed shed;
+    private static Model model;
+    /** The calls made at the shed so far. */
+    private static final List<On> made = new ArrayList<>();
     /** The parts that are there: most calls are about them. */
     private static List<Integer> there = new ArrayList<>();
     private static int sweepOdds;
 
     public static void main(String[] args) {
-        for (int run = 0; run < RUNS && Check.allRight(); run++) {
+        for (run = 0; run < RUNS && Check.allRight(); run++) {
             row = run * 77L + 5;
-            run(run);
+            run();
         }
         Check.end();
     }
@@ -26,27 +46,31 @@ public final class ModelTest {
         return (int) ((row >>> 33) % below);
     }
 
-    private static void run(int run) {
-        StringShed x = new StringShed();
-        Model m = new Model();
+    private static void run() {
+        shed = new StringShed();
+        model = new Model();
+        made.clear();
         int parts = 3 + random(22);
         int odds = 20 + random(40);
+        int lookAfter = 16;
         sweepOdds = 1 + random(4) * 8;
-        for (int i = 0; i < CALLS && Check.allRight(); i++) {
-            there = partsOf(x);
+        // A turn makes no call now and then.
+        for (int turn = 0; turn < 2 * CALLS && made.size() < CALLS && Check.allRight(); turn++) {
+            there = partsOf();
             int kind = random(100) < odds ? random(12) : 12 + random(21);
-            call("run " + run + " call " + i, x, m, kind, parts);
-            if (i % 16 == 0) {
-                lookAtAll("run " + run + " after call " + i, x, m);
+            call(kind, parts);
+            if (made.size() >= lookAfter) {
+                lookAtAll();
+                lookAfter += 16;
             }
         }
     }
 
-    private static List<Integer> partsOf(StringShed x) {
+    private static List<Integer> partsOf() {
         List<Integer> parts = new ArrayList<>();
         for (int p = 0; p < 24; p++) {
             int q = p;
-            if (answer(() -> x.part(q, 0)).length() == 1) {
+            if (answer(() -> model.part(q, 0)).length() == 1) {
                 parts.add(p);
             }
         }
@@ -64,8 +88,17 @@ public final class ModelTest {
         return random(5) == 0 ? -1 - random(4) : place(parts);
     }
 
-    private static void both(String call, Check.Call at, Check.Call model) {
-        Check.compare(call, answer(model), answer(at));
+    private static void both(String text, On on, OnModel onModel) {
+        if (made.size() < CALLS) {
+            compare(new Question(text, on, onModel), shed);
+            made.add(on);
+        }
+    }
+
+    private static void compare(Question question, StringShed at) {
+        String due = answer(() -> question.onModel.call(model));
+        String got = answer(() -> question.on.call(at));
+        Check.compare("run " + run + " after " + made.size() + " calls: " + question.text, due, got);
     }
 
     private static String answer(Check.Call call) {
@@ -76,109 +109,122 @@ public final class ModelTest {
         }
     }
 
-    private static void call(String n, StringShed x, Model m, int kind, int parts) {
+    private static StringShed madeAgain() {
+        StringShed again = new StringShed();
+        for (On on : made) {
+            answer(() -> on.call(again));
+        }
+        return again;
+    }
+
+    private static void call(int kind, int parts) {
         if (kind < 12) {
-            tieOrMake(n, x, m, kind, parts);
+            tieOrMake(kind, parts);
         } else if (kind < 22) {
-            act(n, x, m, kind, parts);
+            act(kind, parts);
         } else {
-            other(n, x, m, kind, parts);
+            other(kind, parts);
         }
     }
 
-    private static void tieOrMake(String n, StringShed x, Model m, int kind, int parts) {
+    private static void tieOrMake(int kind, int parts) {
         int a = thing(parts);
         int p = place(parts);
         boolean sound = random(5) != 0;
         if (there.size() > 8 && random(12) == 0) {
             int under = random(23);
-            both(n + " chain", () -> x.tie(under, under + 1, true), () -> m.tie(under, under + 1, true));
+            both("tie " + under + " " + (under + 1) + " true", x -> x.tie(under, under + 1, true), m -> m.tie(under, under + 1, true));
         }
-        if (kind < 4 && x.about(1) < parts || there.isEmpty() && random(2) == 0) {
+        if (kind < 4 && model.about(1) < parts || there.isEmpty() && random(2) == 0) {
             int w = random(30) == 0 ? random(3) * 10 - 10 : 1 + random(9);
-            both(n + " make " + w, () -> x.make(w), () -> m.make(w));
+            both("make " + w, x -> x.make(w), m -> m.make(w));
         } else {
-            both(n + " tie " + a + " " + p + " " + sound, () -> x.tie(a, p, sound), () -> m.tie(a, p, sound));
+            both("tie " + a + " " + p + " " + sound, x -> x.tie(a, p, sound), m -> m.tie(a, p, sound));
         }
     }
 
     /** Mostly a string that is there, so that it can be cut. */
-    private static int[] someString(StringShed x, int parts) {
-        int code = random(8) == 0 ? -9 : x.stringAt(random(Math.max(1, x.about(3))));
+    private static int[] someString(int parts) {
+        int code = random(8) == 0 ? -9 : model.stringAt(random(Math.max(1, model.about(3))));
         return code == -9 ? new int[] {thing(parts), place(parts)} : new int[] {code / 100 - 4, code % 100};
     }
 
-    private static void act(String n, StringShed x, Model m, int kind, int parts) {
-        int[] s = someString(x, parts);
+    private static void act(int kind, int parts) {
+        int[] s = someString(parts);
         int a = s[0];
         int b = s[1];
         int p = place(parts);
         boolean is = random(3) == 0;
         switch (kind) {
-            case 12 -> both(n + " cut " + a + " " + b, () -> x.cut(a, b), () -> m.cut(a, b));
-            case 13 -> both(n + " fray " + a + " " + b, () -> x.fray(a, b), () -> m.fray(a, b));
-            case 14 -> both(n + " mend " + a + " " + b, () -> x.mend(a, b), () -> m.mend(a, b));
-            case 15 -> both(n + " pin " + p + " " + is, () -> x.pin(p, is), () -> m.pin(p, is));
+            case 12 -> both("cut " + a + " " + b, x -> x.cut(a, b), m -> m.cut(a, b));
+            case 13 -> both("fray " + a + " " + b, x -> x.fray(a, b), m -> m.fray(a, b));
+            case 14 -> both("mend " + a + " " + b, x -> x.mend(a, b), m -> m.mend(a, b));
+            case 15 -> both("pin " + p + " " + is, x -> x.pin(p, is), m -> m.pin(p, is));
             case 16 -> {
                 if (random(32) < sweepOdds) {
-                    both(n + " begin", x::begin, m::begin);
+                    both("begin", StringShed::begin, Model::begin);
                 }
             }
             case 17, 18, 19 -> {
-                if (x.about(8) == 1 || random(10) == 0) {
-                    both(n + " step", x::step, m::step);
+                if (model.about(8) == 1 || random(10) == 0) {
+                    both("step", StringShed::step, Model::step);
                 }
             }
-            case 20 -> both(n + " undo", x::undo, m::undo);
-            default -> both(n + " falls " + a + " " + b, () -> x.falls(a, b), () -> m.falls(a, b));
+            case 20 -> both("undo", StringShed::undo, Model::undo);
+            default -> both("falls " + a + " " + b, x -> x.falls(a, b), m -> m.falls(a, b));
         }
     }
 
-    private static void other(String n, StringShed x, Model m, int kind, int parts) {
+    private static void other(int kind, int parts) {
         int slot = random(20) == 0 ? FAR[random(FAR.length)] : random(2);
         switch (kind) {
-            case 22 -> both(n + " save " + slot, () -> x.save(slot), () -> m.save(slot));
+            case 22 -> both("save " + slot, x -> x.save(slot), m -> m.save(slot));
             case 23 -> {
                 if (random(4) == 0) {
-                    both(n + " restore " + slot, () -> x.restore(slot), () -> m.restore(slot));
+                    both("restore " + slot, x -> x.restore(slot), m -> m.restore(slot));
                 }
             }
-            case 24 -> text(n, x, m);
-            case 25, 26 -> script(n, x, m, parts);
+            case 24 -> {
+                // A text takes many calls.
+                if (random(4) == 0) {
+                    text();
+                }
+            }
+            case 25, 26 -> script(parts);
             case 27 -> {
                 long seed = row;
                 int turns = random(30) == 0 ? random(2) * 201 : 1 + random(200);
-                both(n + " simulate " + seed + " " + turns, () -> x.simulate(seed, turns), () -> m.simulate(seed, turns));
+                both("simulate " + seed + " " + turns, x -> x.simulate(seed, turns), m -> m.simulate(seed, turns));
             }
-            default -> ask(n, x, m, kind, parts);
+            default -> ask(kind, parts);
         }
     }
 
-    private static void ask(String n, StringShed x, Model m, int kind, int parts) {
+    private static void ask(int kind, int parts) {
         int p = place(parts);
         int a = thing(parts);
         int i = random(14) - 1;
         switch (kind) {
-            case 28 -> both(n + " part " + p + " " + i, () -> x.part(p, i), () -> m.part(p, i));
-            case 29 -> both(n + " string " + a + " " + p, () -> x.string(a, p), () -> m.string(a, p));
-            case 30 -> both(n + " way " + p + " " + i, () -> x.way(p, i), () -> m.way(p, i));
-            case 31 -> both(n + " cuts " + p, () -> x.cuts(p), () -> m.cuts(p));
-            default -> both(n + " about " + i, () -> x.about(i), () -> m.about(i));
+            case 28 -> both("part " + p + " " + i, x -> x.part(p, i), m -> m.part(p, i));
+            case 29 -> both("string " + a + " " + p, x -> x.string(a, p), m -> m.string(a, p));
+            case 30 -> both("way " + p + " " + i, x -> x.way(p, i), m -> m.way(p, i));
+            case 31 -> both("cuts " + p, x -> x.cuts(p), m -> m.cuts(p));
+            default -> both("about " + i, x -> x.about(i), m -> m.about(i));
         }
     }
 
-    private static void text(String n, StringShed x, Model m) {
+    private static void text() {
         String text = random(3) == 0 ? noise() : commands();
         for (int i = 0; i < text.length(); i++) {
             int c = text.charAt(i);
-            both(n + " append " + c, () -> x.append(c), () -> m.append(c));
+            both("append " + c, x -> x.append(c), m -> m.append(c));
         }
-        both(n + " errorPosition", x::errorPosition, m::errorPosition);
-        if (random(5) == 0) {
-            both(n + " load", x::load, m::load);
+        both("errorPosition", StringShed::errorPosition, Model::errorPosition);
+        if (random(3) == 0) {
+            both("load", StringShed::load, Model::load);
         }
         if (random(3) != 0) {
-            both(n + " clearText", x::clearText, m::clearText);
+            both("clearText", StringShed::clearText, Model::clearText);
         }
     }
 
@@ -209,7 +255,7 @@ public final class ModelTest {
         return text.toString();
     }
 
-    private static void script(String n, StringShed x, Model m, int parts) {
+    private static void script(int parts) {
         int count = 1 + random(3);
         long number = 0;
         for (int i = 0; i < count; i++) {
@@ -217,8 +263,8 @@ public final class ModelTest {
         }
         long script = random(40) == 0 ? row >> random(40) : number;
         int commands = random(40) == 0 ? random(6) - 1 : count;
-        both(n + " runScript " + commands + " " + script,
-            () -> x.runScript(commands, script), () -> m.runScript(commands, script));
+        both("runScript " + commands + " " + script,
+            x -> x.runScript(commands, script), m -> m.runScript(commands, script));
     }
 
     private static int group(int parts) {
@@ -238,44 +284,49 @@ public final class ModelTest {
         };
     }
 
+    /** Asks all that can be asked, at as many objects as it takes. */
+    private static void lookAtAll() {
+        List<Question> questions = questions();
+        int many = CALLS - made.size();
+        StringShed again = null;
+        for (int i = 0; i < questions.size() && many >= 64; i++) {
+            again = i % many == 0 ? madeAgain() : again;
+            compare(questions.get(i), again);
+        }
+    }
+
     /** All that can be asked, which changes nothing. */
-    private static void lookAtAll(String n, StringShed x, Model m) {
-        List<String> got = new ArrayList<>();
-        List<String> due = new ArrayList<>();
+    private static List<Question> questions() {
+        List<Question> all = new ArrayList<>();
         for (int i = -1; i <= 12; i++) {
             int what = i;
-            got.add("about " + i + " " + answer(() -> x.about(what)));
-            due.add("about " + i + " " + answer(() -> m.about(what)));
+            all.add(new Question("about " + i, x -> x.about(what), m -> m.about(what)));
         }
         for (int i = 0; i <= 40; i++) {
             int place = i;
-            got.add("stringAt " + i + " " + answer(() -> x.stringAt(place)));
-            due.add("stringAt " + i + " " + answer(() -> m.stringAt(place)));
+            all.add(new Question("stringAt " + i, x -> x.stringAt(place), m -> m.stringAt(place)));
         }
-        for (int i = 0; i < 24; i++) {
-            int p = i;
-            for (int k = 0; k <= 7; k++) {
-                int what = k;
-                got.add("part " + p + " " + k + " " + answer(() -> x.part(p, what)));
-                due.add("part " + p + " " + k + " " + answer(() -> m.part(p, what)));
-                got.add("way " + p + " " + k + " " + answer(() -> x.way(p, what)));
-                due.add("way " + p + " " + k + " " + answer(() -> m.way(p, what)));
-            }
-            got.add("cuts " + p + " " + answer(() -> x.cuts(p)));
-            due.add("cuts " + p + " " + answer(() -> m.cuts(p)));
-            for (int k = -4; k < 24; k++) {
-                int a = k;
-                got.add("falls " + a + " " + p + " " + answer(() -> x.falls(a, p)));
-                due.add("falls " + a + " " + p + " " + answer(() -> m.falls(a, p)));
-            }
+        for (int p = 0; p < 24; p++) {
+            addQuestions(all, p);
         }
-        for (int i = 0; i < due.size(); i++) {
-            Check.compare(n, due.get(i), got.get(i));
+        all.add(new Question("heaviest", StringShed::heaviest, Model::heaviest));
+        all.add(new Question("rings", StringShed::rings, Model::rings));
+        all.add(new Question("takes", StringShed::takes, Model::takes));
+        all.add(new Question("spares", StringShed::spares, Model::spares));
+        all.add(new Question("errorPosition", StringShed::errorPosition, Model::errorPosition));
+        return all;
+    }
+
+    private static void addQuestions(List<Question> all, int p) {
+        for (int k = 0; k <= 7; k++) {
+            int i = k;
+            all.add(new Question("part " + p + " " + k, x -> x.part(p, i), m -> m.part(p, i)));
+            all.add(new Question("way " + p + " " + k, x -> x.way(p, i), m -> m.way(p, i)));
         }
-        both(n + " heaviest", x::heaviest, m::heaviest);
-        both(n + " rings", x::rings, m::rings);
-        both(n + " takes", x::takes, m::takes);
-        both(n + " spares", x::spares, m::spares);
-        both(n + " errorPosition", x::errorPosition, m::errorPosition);
+        all.add(new Question("cuts " + p, x -> x.cuts(p), m -> m.cuts(p)));
+        for (int k = -4; k < 24; k++) {
+            int a = k;
+            all.add(new Question("falls " + a + " " + p, x -> x.falls(a, p), m -> m.falls(a, p)));
+        }
     }
 }

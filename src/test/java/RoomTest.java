@@ -5,6 +5,8 @@ public final class RoomTest {
     private static final com.sun.management.ThreadMXBean THREADS =
         (com.sun.management.ThreadMXBean) ManagementFactory.getThreadMXBean();
 
+    private static final int ROUNDS = 9;
+
     private static long answers = 0;
 
     public static void main(String[] args) {
@@ -17,12 +19,12 @@ public final class RoomTest {
         long ofObject = taken() - before - nothing;
         answers += y.rings();
         before = taken();
-        for (int i = 0; i < 20; i++) {
+        for (int i = 0; i < ROUNDS; i++) {
             allCalls(x);
         }
         long ofCalls = taken() - before - nothing;
         Check.compare("bytes of an object: " + ofObject, "true", String.valueOf(ofObject < 40000));
-        Check.compare("bytes of 600 calls: " + ofCalls, "true", String.valueOf(ofCalls < 20000));
+        Check.compare("bytes of " + ROUNDS + " rounds of calls: " + ofCalls, "true", String.valueOf(ofCalls < 10000));
         Check.end();
     }
 

@@ -1,6 +1,7 @@
 /**
  * Two objects made alike, of which one gets a call more: afterwards both are asked, and made to do, all that
  * tells a difference of their states, of what they remember, of their save slots, and of their texts.
+ * Each trace begins with new objects, as what an object answers after 512 calls is free.
  */
 final class Twins {
     interface Maker {
@@ -32,27 +33,37 @@ final class Twins {
     /** The call changes nothing but the text. */
     static void changesTextAlone(String call, Maker maker, On on) {
         alikeInState(call, maker, after(maker, on));
-        compare(call + ", past", Twins::past, maker, after(maker, on));
-        compare(call + ", slots", Twins::slots, maker, after(maker, on));
+        alikeInPast(call, maker, after(maker, on));
+        alikeInSlots(call, maker, after(maker, on));
     }
 
     /** The call changes nothing but the save slots. */
     static void changesSlotsAlone(String call, Maker maker, On on) {
         alikeInState(call, maker, after(maker, on));
-        compare(call + ", past", Twins::past, maker, after(maker, on));
+        alikeInPast(call, maker, after(maker, on));
         compare(call + ", text", Twins::text, maker, after(maker, on));
     }
 
     static void alike(String what, Maker one, Maker other) {
         alikeInState(what, one, other);
-        compare(what + ", past", Twins::past, one, other);
-        compare(what + ", slots", Twins::slots, one, other);
+        alikeInPast(what, one, other);
+        alikeInSlots(what, one, other);
         compare(what + ", text", Twins::text, one, other);
     }
 
     static void alikeInState(String what, Maker one, Maker other) {
         compare(what + ", look", Twins::look, one, other);
         compare(what + ", sweep", Twins::sweep, one, other);
+    }
+
+    private static void alikeInPast(String what, Maker one, Maker other) {
+        compare(what + ", past", Twins::past, one, other);
+        compare(what + ", past in detail", Twins::pastInDetail, one, other);
+    }
+
+    private static void alikeInSlots(String what, Maker one, Maker other) {
+        compare(what + ", slot 0", x -> slot(x, 0), one, other);
+        compare(what + ", slot 1", x -> slot(x, 1), one, other);
     }
 
     private static Maker after(Maker maker, On on) {
@@ -139,6 +150,14 @@ final class Twins {
         for (int i = 0; i < 16; i++) {
             add(trace, "undo", x::undo);
             addAbouts(trace, x);
+        }
+        return trace.toString();
+    }
+
+    private static String pastInDetail(StringShed x) {
+        StringBuilder trace = new StringBuilder();
+        for (int i = 0; i < 16; i++) {
+            add(trace, "undo", x::undo);
             for (int k = 0; k < 4; k++) {
                 int p = k;
                 add(trace, "part " + p, () -> x.part(p, 6));
@@ -148,13 +167,10 @@ final class Twins {
         return trace.toString();
     }
 
-    private static String slots(StringShed x) {
+    private static String slot(StringShed x, int slot) {
         StringBuilder trace = new StringBuilder();
-        for (int i = 0; i < 2; i++) {
-            int slot = i;
-            add(trace, "restore " + slot, () -> x.restore(slot));
-            trace.append(look(x));
-        }
+        add(trace, "restore " + slot, () -> x.restore(slot));
+        trace.append(look(x));
         return trace.toString();
     }
 
